@@ -45,8 +45,11 @@ public final class PlacesTest {
         other.house(6);
         Checks.same("2: nothing of the old house comes back", Checks.state(x), Checks.state(other));
         Checks.yes("2: all PLACES are PLAIN again", x.lay(63));
-        x.lay(1);
-        Checks.due("2: LOOKS are anew", x.unlike(0), 0);
+        x.lay(4);
+        Checks.due("2: LOOKS are anew", x.unlike(2), 0);
+        x.round(0, 1, 1, 2);
+        Checks.due("2: ROUNDS are anew: PLACE 1", x.honest(2), 0);
+        Checks.due("2: ROUNDS are anew: PLACE 2", x.honest(4), 1);
         Checks.due("2: the TALE is anew", x.look(5), 0);
         for (int n = 2; n <= 9; n++) {
             Checks.yes("2: house(" + n + ")", x.house(n));

@@ -185,6 +185,14 @@ public final class TaleTest {
         Checks.due("20: behind the last touched one", x.next(), 8);
         x.door(2, 1, true);
         Checks.due("20: also to another GATE", x.next(), 10);
+        x.house(3);
+        x.is(0, 1);
+        x.is(2, 2);
+        Checks.doors(x, "01 12");
+        Checks.due("20: of the only WAY", x.next(), 1);
+        x.lay(2);
+        x.touch(1);
+        Checks.due("20: behind it on the only WAY", x.next(), 4);
     }
 
     private static void tell() {
@@ -265,6 +273,12 @@ public final class TaleTest {
         Checks.due("23: by the second TALE", Checks.taleOf(x, 5, 2), 1);
         Checks.due("23: since it was KNOWN", x.tales(5), 0);
         Checks.due("23: since it is a DECOY", x.tales(2), 1);
+        x.house(9);
+        x.lay(257);
+        Checks.taleOf(x, 8, 0);
+        x.lay(2);
+        Checks.due("23: the first PLACE is a DECOY no more", x.tales(0), 0);
+        Checks.due("23: nor is the last", x.tales(8), 0);
     }
 
     private static void day() {

@@ -136,6 +136,11 @@ public final class WaysTest {
         for (int wrong : new int[] {LEAST, -1, 16, 17, 512, MOST}) {
             Checks.due("11: no set", x.touched(wrong), NONE);
         }
+        x.is(0, 0);
+        x.is(1, 1);
+        Checks.due("11: of 1023 103 1203 123 13, PLACE 0", x.touched(1), 3);
+        Checks.due("11: PLACE 2", x.touched(4), 3);
+        Checks.due("11: PLACES 0 and 2", x.touched(5), 4);
         x = full(9);
         Checks.due("11: all PLACES", x.touched(511), 1100);
         Checks.due("11: no more PLACES", x.touched(512), NONE);
