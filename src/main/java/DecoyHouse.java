@@ -22,6 +22,7 @@ public final class DecoyHouse {
     private static final int ROUNDS = 6;
     private static final int LONGEST_ROUND = 8;
     private static final int MOST_TIMES = 99;
+    private static final int MOST_HONEST = ROUNDS * LONGEST_ROUND * MOST_TIMES;
 
     private static final int MOST_TOUCHES = 6;
     private static final int FIRST_BEARS = 3;
@@ -162,7 +163,7 @@ public final class DecoyHouse {
             return NONE;
         }
         // BEST without limits has the order of COVER among the sets that TOUCH all WAYS.
-        int found = findBest(MOST_PLACES, Integer.MAX_VALUE);
+        int found = findBest(MOST_PLACES, MOST_HONEST);
         return book.countTouchedBy(found) == count ? found : NONE;
     }
 

@@ -16,9 +16,18 @@ record Call(String text, Method method, Object[] arguments) {
         for (int i = 0; i < words.length; i++) {
             String word = words[i].trim();
             boolean isTruth = word.equals("true") || word.equals("false");
-            values[i] = isTruth ? (Object) word.equals("true") : (Object) number(word);
+            values[i] = isTruth ? (Object) word.equals("true") : (Object) sum(word);
         }
         return new Call(text, methodOf(name), values);
+    }
+
+    /** A set may be written as the sum of its PLACES, such as "4 + 32". */
+    private static int sum(String words) {
+        int sum = 0;
+        for (String word : words.split(" \\+ ")) {
+            sum += number(word);
+        }
+        return sum;
     }
 
     /** A truth counts 1 or 0. */

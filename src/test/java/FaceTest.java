@@ -22,10 +22,16 @@ public final class FaceTest {
         "boolean touch(int)", "int left()", "int leftWay(int)", "int next()", "int tell()",
         "boolean bear(int)", "int tales(int)", "int day()", "int move(int, int, int)"};
 
+    /** What the program uses of the library; all of it stands in LANGUAGE.md's rule 4. */
+    private static final Set<String> LIBRARY = Set.of("Integer.bitCount", "Math.min", "Arrays.fill");
+
     public static void main(String[] args) throws IOException {
         members();
         nestedClasses();
-        words();
+        String code = Files.readString(Path.of("src/main/java/DecoyHouse.java"))
+            .replaceAll("(?s)/\\*.*?\\*/", "").replaceAll("//[^\n]*", "");
+        words(code);
+        library(code);
         Checks.end();
     }
 
@@ -72,9 +78,7 @@ public final class FaceTest {
         }
     }
 
-    private static void words() throws IOException {
-        String code = Files.readString(Path.of("src/main/java/DecoyHouse.java"))
-            .replaceAll("(?s)/\\*.*?\\*/", "").replaceAll("//[^\n]*", "");
+    private static void words(String code) {
         Matcher bad = Pattern.compile("\\b(throw|throws|try|catch|synchronized|assert|volatile|Random|System"
             + "|hashCode|toString|Exact\\w*|protected|package)\\b|->|::").matcher(code);
         while (bad.find()) {
@@ -83,6 +87,13 @@ public final class FaceTest {
         Matcher imports = Pattern.compile("import ([\\w.]+);").matcher(code);
         while (imports.find()) {
             Checks.same("imports", imports.group(1), "java.util.Arrays");
+        }
+    }
+
+    private static void library(String code) {
+        Matcher uses = Pattern.compile("\\b([A-Z]\\w*[a-z]\\w*)\\.(\\w+)").matcher(code.replaceAll("import [^;]+;", ""));
+        while (uses.find()) {
+            Checks.yes("LANGUAGE.md 4: " + uses.group(), LIBRARY.contains(uses.group()));
         }
     }
 }
